@@ -15,7 +15,7 @@ public final class GlassesOfRue {
     private static final int TOLD_RUES = 100, SEEDS_MOST = 20, CHANCE_DAYS = 10, CHANCE_MOST = 99;
 
     private static final int PERSON = 0, SCAMP = 1, SAINT = 2, BANKER = 3, NUN = 4, CLERK = 5, KINDS = 6;
-    private static final int RUNS_PART = 0, CLOGS_PART = 1, RUES_PART = 2, PARTS = 3;
+    private static final int RUNS_PART = 0, CLOGS_PART = 1, RUES_PART = 2, PARTS = 3, NAMES = 6;
     private static final int MISSING = -1, BYTES = 0, SHORTS = 1, INTS = 2;
 
     private static final String FIRST_RULE = "runs 1 + rue ; clogs 0 ; rues 1 ;";
@@ -164,9 +164,7 @@ public final class GlassesOfRue {
             return BAD;
         }
         thought.become(now);
-        for (int i = 0; i < n; i++) {
-            thought.passDay();
-        }
+        thought.passDays(n);
         switch (what) {
             case 0: return thought.rue[one];
             case 1: return thought.minutesOf(one);
@@ -233,36 +231,21 @@ public final class GlassesOfRue {
         if (!isThree(three) || !isMinute(minute) || !within(what, 0, 1)) {
             return BAD;
         }
-        return what == 0 ? leastDraw(three, minute) : leastDays(three, minute);
-    }
-
-    private int leastDraw(int three, int minute) {
         int first = three / 100;
         int second = three / 10 % 10;
-        int most = Math.min(now.rue[first], DRAW_MOST);
+        int most = what == 0 ? Math.min(now.rue[first], DRAW_MOST) : MAKE_DAYS_MOST;
         for (int v = 0; v <= most; v++) {
             thought.become(now);
-            thought.drawOff(first, second, v);
-            if (canTell(thought, three, minute)) {
+            if (what == 0) {
+                thought.drawOff(first, second, v);
+            } else {
+                thought.passDays(v);
+            }
+            if ((timesOf(thought, three) >> minute & 1) == 1) {
                 return v;
             }
         }
         return NONE;
-    }
-
-    private int leastDays(int three, int minute) {
-        thought.become(now);
-        for (int days = 0; days <= MAKE_DAYS_MOST; days++) {
-            if (canTell(thought, three, minute)) {
-                return days;
-            }
-            thought.passDay();
-        }
-        return NONE;
-    }
-
-    private boolean canTell(World world, int three, int minute) {
-        return (timesOf(world, three) >> minute & 1) == 1;
     }
 
     private static int nextTold(int times, int minute) {
@@ -311,17 +294,23 @@ public final class GlassesOfRue {
         if (row.size > TELLS_MOST) {
             return BAD;
         }
+        if (what == 0) {
+            return firstOtherwise(row, one, what, 0);
+        }
+        int bits = 0;
+        int many = 0;
+        int least = NONE;
+        for (int v = choices(what) - 1; v >= 0; v--) {
+            if (firstOtherwise(row, one, what, v) == NONE) {
+                bits |= 1 << v;
+                many++;
+                least = v;
+            }
+        }
         switch (what) {
-            case 0:
-                thought.become(now);
-                return firstOtherwise(row, one);
-            case 1: return whichTell(row, one, 1, KINDS);
-            case 2:
-            case 3: return whichTell(row, one, what, DIGIT_MOST + 1);
-            case 4: return howManyRues(row, one);
-            case 5: return leastRue(row, one);
-            case 6: return whichTell(row, one, 6, textCount);
-            default: return whichTell(row, one, 7, now.size);
+            case 4: return many;
+            case 5: return least;
+            default: return bits;
         }
     }
 
@@ -389,57 +378,37 @@ public final class GlassesOfRue {
         }
     }
 
-    /** From the thought on, which is used up by it: the first number that one's glass doesn't run, or NONE. */
-    private int firstOtherwise(Sheet row, int one) {
-        for (int i = 0; i < row.size; i++) {
-            if (thought.minutesOf(one) != row.at(i)) {
-                return i;
-            }
-            thought.passDay();
+    /** How many values of what (as of tells()) are tried. */
+    private int choices(int what) {
+        switch (what) {
+            case 1: return KINDS;
+            case 2:
+            case 3: return DIGIT_MOST + 1;
+            case 4:
+            case 5: return TOLD_RUES;
+            case 6: return textCount;
+            default: return now.size;
         }
-        return NONE;
     }
 
-    /** Whether all would be as the row tells if that of one which what (as of tells()) names were v. */
-    private boolean wouldTell(Sheet row, int one, int what, int v) {
-        int who = one;
+    /** The first number of the row that isn't so, were that which what (as of tells(); 0: nothing) names v. */
+    private int firstOtherwise(Sheet row, int one, int what, int v) {
+        int who = what == 7 ? v : one;
         thought.become(now);
         switch (what) {
             case 1: thought.kind[one] = v; break;
             case 2: thought.number[one] = v; break;
             case 3: thought.wet = v; break;
-            case 4: thought.rue[one] = v; break;
+            case 4:
+            case 5: thought.rue[one] = v; break;
             case 6: thought.rule = v; break;
-            default: who = v; break;
+            default: break;
         }
-        return firstOtherwise(row, who) == NONE;
-    }
-
-    private int whichTell(Sheet row, int one, int what, int choices) {
-        int bits = 0;
-        for (int v = 0; v < choices; v++) {
-            if (wouldTell(row, one, what, v)) {
-                bits |= 1 << v;
+        for (int i = 0; i < row.size; i++) {
+            if (thought.minutesOf(who) != row.at(i)) {
+                return i;
             }
-        }
-        return bits;
-    }
-
-    private int howManyRues(Sheet row, int one) {
-        int n = 0;
-        for (int rue = 0; rue < TOLD_RUES; rue++) {
-            if (wouldTell(row, one, 4, rue)) {
-                n++;
-            }
-        }
-        return n;
-    }
-
-    private int leastRue(Sheet row, int one) {
-        for (int rue = 0; rue < TOLD_RUES; rue++) {
-            if (wouldTell(row, one, 4, rue)) {
-                return rue;
-            }
+            thought.passDay();
         }
         return NONE;
     }
@@ -589,6 +558,8 @@ public final class GlassesOfRue {
         private final int[] rue = new int[PEOPLE_MOST];
         private final int[] had = new int[PEOPLE_MOST];
         private final int[] more = new int[PEOPLE_MOST];
+        /** What the names of a text stand for, in the order of the tape's words. */
+        private final int[] names = new int[NAMES];
         private int size;
         private int day;
         private int wet;
@@ -685,6 +656,12 @@ public final class GlassesOfRue {
             day++;
         }
 
+        void passDays(int n) {
+            for (int i = 0; i < n; i++) {
+                passDay();
+            }
+        }
+
         void drawOff(int one, int other, int v) {
             rue[one] -= v;
             rue[other] = Math.min(RUE_MOST, rue[other] + v);
@@ -730,22 +707,17 @@ public final class GlassesOfRue {
             return bits;
         }
 
-        int named(int name, int one) {
-            switch (name) {
-                case 0: return rue[one];
-                case 1: return number[one];
-                case 2: return wet;
-                case 3: return day;
-                case 4: return had[one];
-                default: return mostRue();
-            }
-        }
-
         private int ruleTells(int part, int one) {
             if (rule < 0 || rule >= texts.length || texts[rule] == null) {
                 return 0;
             }
-            return texts[rule].tellOf(this, part, one);
+            names[0] = rue[one];
+            names[1] = number[one];
+            names[2] = wet;
+            names[3] = day;
+            names[4] = had[one];
+            names[5] = mostRue();
+            return texts[rule].tell(part, names);
         }
     }
 
@@ -767,18 +739,19 @@ public final class GlassesOfRue {
             }
         }
 
-        int tellOf(World world, int part, int one) {
+        int tell(int part, int[] names) {
             int top = 0;
             for (int i = part == 0 ? 0 : ends[part - 1]; i < ends[part]; i++) {
                 int c = code[i];
                 if (c < JOINED) {
-                    if (top < TAPE_MOST) {
-                        stack[top] = c < NAMED ? c : world.named(c - NAMED, one);
+                    int name = c - NAMED;
+                    if (top < TAPE_MOST && name < NAMES) {
+                        stack[top] = name < 0 ? c : names[name];
                         top++;
                     }
                 } else if (c >= NEGATED) {
                     if (top > 0) {
-                        stack[top - 1] = c == NEGATED ? -stack[top - 1] : oneOrZero(stack[top - 1] == 0);
+                        stack[top - 1] = changed(c, stack[top - 1]);
                     }
                 } else if (top > 1) {
                     top--;
@@ -788,32 +761,34 @@ public final class GlassesOfRue {
             return top > 0 ? stack[0] : 0;
         }
 
+        private static int changed(int c, int a) {
+            if (c == NEGATED) {
+                return -a;
+            }
+            return a == 0 ? 1 : 0;
+        }
+
         private static int joined(int token, int a, int b) {
             switch (token) {
-                case Tape.OR: return oneOrZero(a != 0 || b != 0);
-                case Tape.AND: return oneOrZero(a != 0 && b != 0);
-                case '<': return oneOrZero(a < b);
-                case '=': return oneOrZero(a == b);
+                case Tape.OR: return a != 0 || b != 0 ? 1 : 0;
+                case Tape.AND: return a != 0 && b != 0 ? 1 : 0;
+                case '<': return a < b ? 1 : 0;
+                case '=': return a == b ? 1 : 0;
                 case '+': return a + b;
                 case '-': return a - b;
                 default: return a * b;
             }
         }
-
-        private static int oneOrZero(boolean yes) {
-            return yes ? 1 : 0;
-        }
     }
 
     /** THE TAPE and its reader. What reads a part answers false at a FAULT, and stays at the token that is it. */
     private static final class Tape {
-        /** Tokens; a sign is its own byte. */
-        private static final int END = 0, WRONG = 1, NUMBER = 2, NAME = 3;
-        private static final int RUNS = 4, CLOGS = 5, RUES = 6, OR = 7, AND = 8, NOT = 9;
-        /** Names first, then keys in the order of their tokens, a blank behind each. */
+        /** Tokens; a sign is its own byte. The three parts' keys are tokens from PART_KEY on. */
+        private static final int END = 0, WRONG = 1, NUMBER = 2, NAME = 3, PART_KEY = 4, OR = 7, AND = 8, NOT = 9;
+        /** The names, then the keys in the order of their tokens, a blank behind each. */
         private static final String WORDS = "rue number wet day had most runs clogs rues or and not ";
         private static final String SIGNS = "();+-*<=";
-        private static final int NAMES = 6, DIGITS_MOST = 4, OPEN_MOST = 5;
+        private static final int DIGITS_MOST = 4, OPEN_MOST = 5;
 
         private final int[] bytes = new int[TAPE_MOST];
         private final int[] code = new int[TAPE_MOST];
@@ -839,22 +814,18 @@ public final class GlassesOfRue {
             place = 0;
             codeSize = 0;
             next();
-            boolean whole = readPart(RUNS, RUNS_PART) && readPart(CLOGS, CLOGS_PART)
-                && readPart(RUES, RUES_PART) && token == END;
-            return whole ? NONE : tokenPlace;
-        }
-
-        private boolean readPart(int key, int part) {
-            if (token != key) {
-                return false;
+            for (int part = 0; part < PARTS; part++) {
+                if (token != PART_KEY + part) {
+                    return tokenPlace;
+                }
+                next();
+                if (!readEither(0) || token != ';') {
+                    return tokenPlace;
+                }
+                ends[part] = codeSize;
+                next();
             }
-            next();
-            if (!readEither(0) || token != ';') {
-                return false;
-            }
-            ends[part] = codeSize;
-            next();
-            return true;
+            return token == END ? NONE : tokenPlace;
         }
 
         private boolean readEither(int open) {
@@ -984,7 +955,7 @@ public final class GlassesOfRue {
             if (tokenValue == NONE) {
                 token = WRONG;
             } else {
-                token = tokenValue < NAMES ? NAME : RUNS + tokenValue - NAMES;
+                token = tokenValue < NAMES ? NAME : PART_KEY + tokenValue - NAMES;
             }
         }
 

@@ -118,6 +118,7 @@ final class GlassesTest {
         Check.due("a missing SHEET", x.tells(2, 0, 0), -11);
         Check.due("a missing SHEET, of none such", x.tells(2, 1, 0), -2);
         Check.due("a missing SHEET, no such what", x.tells(2, 0, 8), -2);
+        Check.due("SHEET 3", x.tells(3, 0, 0), -11);
         Check.due("SHEET 4", x.tells(4, 0, 0), -2);
         Check.due("SHEET -1", x.tells(-1, 0, 0), -2);
         Check.due("one -1", x.tells(0, -1, 7), -2);

@@ -151,6 +151,7 @@ final class HostTest {
         Check.due("another sort", x.people(0, 1, 0, 0), -13);
         Check.due("another sort, outside", x.people(0, 0, -1, 1), -13);
         Check.due("missing", x.people(1, 2, -1, 0), -11);
+        Check.due("SHEET 3 missing", x.people(3, 0, 0, 0), -11);
         Check.due("nobody came", x.count(0), 0);
         for (int from : new int[] {-1, MIN, 6, 8, 9, MAX, MAX - 2}) {
             Check.due("outside " + from, x.people(0, 2, from, 1), -12);

@@ -8,6 +8,7 @@ final class TableTest {
         times();
         fewest();
         best();
+        bestIsAny();
         drawing();
         days();
         wrong();
@@ -62,9 +63,15 @@ final class TableTest {
     }
 
     private static void allSizes() {
+        GlassesOfRue x = clerks(0, 0, 0);
         for (int sizes = 0; sizes < 1000; sizes++) {
             int[] size = {sizes / 100, sizes / 10 % 10, sizes % 10};
-            GlassesOfRue x = clerks(size[0], size[1], size[2]);
+            if (sizes % 5 == 2) {
+                x = clerks(0, 0, 0); // five sizes by one object, 9 and 10, 99 and 100 together: what it remembers mustn't mix them
+            }
+            for (int i = 0; i < 3; i++) {
+                x.set(2, i, size[i]);
+            }
             long times = 0;
             Map<Integer, String> known = new HashMap<>();
             for (int minute = 1; minute <= 30; minute++) {
@@ -116,6 +123,9 @@ final class TableTest {
         Check.due("FEWEST 30", y.fewest(12, 30, 0), 30);
         Check.due("NEXT beyond all", clerks(9, 9, 9).fewest(12, 28, 2), -1);
         Check.due("WAY in another order", x.fewest(210, 4, 1), 5);
+        Check.due("WAY in another order", x.fewest(102, 4, 1), 3);
+        Check.due("WAY in another order", x.fewest(120, 4, 1), 5);
+        Check.due("WAY in another order", x.fewest(201, 8, 1), 2);
     }
 
     private static void best() {
@@ -138,20 +148,31 @@ final class TableTest {
         y.person(5, 4, 0);
         Check.due("best of two", y.best(4, 0), -1);
         Check.due("best of two", y.best(4, 1), -1);
-        y.person(5, 5, 0);
-        y.person(5, 6, 0);
-        for (int minute = 1; minute <= 30; minute++) {
-            int bestThree = -1;
-            int bestTurns = -1;
-            for (int three : new int[] {12, 13, 23, 123}) {
-                int turns = y.fewest(three, minute, 0);
-                if (turns != -1 && (bestTurns == -1 || turns < bestTurns)) {
-                    bestThree = three;
-                    bestTurns = turns;
+    }
+
+    /** Four CLERKS, so that each of the four threes is the best for some minute. */
+    private static void bestIsAny() {
+        boolean[] was = new boolean[1000];
+        for (int sizes = 1111; sizes < 10000; sizes += 137) {
+            GlassesOfRue x = clerks(sizes / 1000, sizes / 100 % 10, sizes / 10 % 10);
+            x.person(5, sizes % 10, 0);
+            for (int minute = 1; minute <= 30; minute++) {
+                int bestThree = -1;
+                int bestTurns = -1;
+                for (int three : new int[] {12, 13, 23, 123}) {
+                    int turns = x.fewest(three, minute, 0);
+                    if (turns != -1 && (bestTurns == -1 || turns < bestTurns)) {
+                        bestThree = three;
+                        bestTurns = turns;
+                    }
                 }
+                Check.due("best three of " + sizes + ", " + minute, x.best(minute, 0), bestThree);
+                Check.due("best TURNS of " + sizes + ", " + minute, x.best(minute, 1), bestTurns);
+                was[Math.max(0, bestThree)] = true;
             }
-            Check.due("best three " + minute, y.best(minute, 0), bestThree);
-            Check.due("best TURNS " + minute, y.best(minute, 1), bestTurns);
+        }
+        for (int three : new int[] {12, 13, 23, 123}) {
+            Check.due("best was " + three, was[three] ? 1 : 0, 1);
         }
     }
 

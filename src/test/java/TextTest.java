@@ -60,6 +60,8 @@ final class TextTest {
         fault("runs #", 5);
         fault("runs ruex;", 5);
         fault("runs ru;", 5);
+        fault("runs ruez;", 5);
+        fault("runs 1 az", 7);
         fault("runs 1 + mostly;", 9);
         good("runs 9999;clogs 0000;rues 0;");
         fault("runs 10000;clogs", 5);
