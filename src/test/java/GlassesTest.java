@@ -192,11 +192,15 @@ final class GlassesTest {
         Check.text(x, "runs 1;clogs 4 < wet;rues 1;");
         x.force(1);
         int seed = 2147483640;
+        int[] clogs = new int[20];
+        for (int i = 0; i < 20; i++) {
+            clogs[i] = x.drawn(seed + i, 10);
+        }
         for (int m = 1; m <= 20; m++) {
             for (int k = 0; k <= 10; k++) {
                 int above = 0;
                 for (int i = 0; i < m; i++) {
-                    above += x.drawn(seed + i, 10) >= k ? 1 : 0;
+                    above += clogs[i] >= k ? 1 : 0;
                 }
                 int below = m;
                 for (int d = 20; d > 1; d--) {

@@ -1,6 +1,6 @@
 /** Promises 23 to 27: sheet, cell, copy, people, taken. */
 final class HostTest {
-    private static final int MAX = 2147483647, MIN = -2147483648;
+    private static final int MAX = Check.MAX, MIN = Check.MIN;
 
     public static void main(String[] args) {
         sheet();
